@@ -1,6 +1,19 @@
 /** Runs every test of the project and ends with the line "N passed, N failed". */
 public final class AllTests {
     public static void main(String[] arguments) {
+        CanalTests.run();
+        TextTests.run();
+        BargeTests.run();
+        OrderTests.run();
+        AccountTests.run();
+        ForecastTests.run();
+        ChangeTests.run();
+        MinuteTests.run();
+        ScriptTests.run();
+        HistoryTests.run();
+        Kit.test(0, "every promise has a test", () -> {
+            for (int promise = 1; promise <= 63; promise++) Kit.same("a test of promise " + promise, Kit.PROMISES.contains(promise), true);
+        });
         RandomRunsTests.run();
         if (Kit.finish() > 0) System.exit(1);
     }
