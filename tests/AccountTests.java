@@ -79,8 +79,16 @@ final class AccountTests {
             Kit.same(c.gap(), 0);
             c.undo();
             c.undo();
-            c.undo();
             Kit.same(c.gap(), 0);
+            c.collect(0);
+            Kit.same(c.dirtyPairs(0), 2);
+            Kit.same(c.gap(), 0);
+            NoodleCanal five = Kit.canal("canal 3;barge 0 1 9 9;barge 0 1 9 9;barge 0 1 9 9;barge 0 1 9 9;barge 2 1 9 9;order 2 3 1 9;");
+            five.take(4, 0);
+            five.passMinutes(1);
+            five.collect(4);
+            Kit.same(five.dirtyPairs(4), 3);
+            Kit.same(five.gap(), 0);
             Kit.load(c, "canal 4;barge 0 1 1 77;");
             Kit.same(c.gap(), 0);
         });

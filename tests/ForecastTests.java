@@ -18,6 +18,14 @@ final class ForecastTests {
             int[][] due = {{0, 0, 2, 0, 3, 3}, {0, 0, 2, 0, 0, 0}, {3, 3, 2, 0, 3, 3}};
             for (int b = 0; b < 3; b++) for (int p = 0; p < 6; p++) Kit.same("barge " + b + " to " + p, c.sailObstacle(b, p), due[b][p]);
         });
+        Kit.test(43, "the clearance may be the height, down to 1", () -> {
+            NoodleCanal c = Kit.canal("canal 4;bridge 0 1;bridge 2 9;barge 1 1 0 0;barge 1 2 0 0;barge 1 9 0 0;");
+            int[] due = {0, 3, 3};
+            for (int b = 0; b < 3; b++) {
+                Kit.same(c.sailObstacle(b, 0), due[b]);
+                Kit.same(c.sailObstacle(b, 3), 0);
+            }
+        });
         Kit.test(43, "the place is the target already", () -> {
             NoodleCanal c = Kit.canal(BRIDGES);
             c.sail(1, 5);

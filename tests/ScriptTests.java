@@ -229,6 +229,16 @@ final class ScriptTests {
             Kit.scriptFails("flour 0 1 2;", 1, 10);
             Kit.scriptFails("wait 1,", 1, 6);
         });
+        Kit.test(4, "every letter of a word counts", () -> {
+            for (String word : new String[] {"sail", "order", "take", "drop", "flour", "collect", "wash", "wait", "repeat"}) {
+                for (int at = 0; at < word.length(); at++) {
+                    Kit.scriptFails("wait 1;" + word.substring(0, at) + "x" + word.substring(at + 1) + " 2 2 2 2;", 1, 7);
+                    Kit.scriptFails("wait 1;" + word.substring(0, at) + word.substring(at + 1) + " 2 2 2 2;", 1, 7);
+                    Kit.scriptFails("wait 1;" + word.substring(0, at) + "z" + word.substring(at) + " 2 2 2 2;", 1, 7);
+                }
+                Kit.scriptFails("wait 1;" + word + "z 2 2 2 2;", 1, 7);
+            }
+        });
         Kit.test(4, "what is not allowed in a repeat", () -> {
             Kit.scriptFails("repeat", 1, 6);
             Kit.scriptFails("repeat (wait 1;);", 1, 7);

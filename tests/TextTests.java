@@ -93,6 +93,22 @@ final class TextTests {
             Kit.same(c.bargeOf(0), -1);
             Kit.same(c.pullsLeft(0), 3);
         });
+        Kit.test(3, "nothing of any earlier canal comes back, however often one is loaded", () -> {
+            String plain = "canal 3;barge 0 1 0 0;barge 1 2 3 4;order 1 1 1 9;order 0 4 6 50;";
+            String due = Kit.lookAtCanal(Kit.canal(plain));
+            NoodleCanal c = new NoodleCanal();
+            for (int i = 0; i < 4; i++) {
+                Kit.load(c, "canal 3;lock 0 9;bridge 0 2;barge 0 1 50 50;barge 0 2 50 50;order 0 2 1 9;order 1 2 2 2;order 0 1 1 60;order 2 1 6 60;");
+                Kit.script(c, "take 0 0;take 0 1;wait 1;collect 0;collect 1;take 1 2;wait 5;flour 1 9;sail 0 1;take 0 3;wait 3;");
+                Kit.same(c.queueLength(0), 1);
+                Kit.same(c.timeInLock(0), 7);
+                Kit.same(c.eatenBowls() + c.expiredOrders(), 4);
+                if (i % 2 == 1) c.coinsAfter(9);
+                if (i > 1) Kit.load(c, "x");
+                Kit.same(Kit.load(c, plain), 2);
+                Kit.same("load " + i, Kit.lookAtCanal(c), due);
+            }
+        });
         Kit.test(3, "a parse error leaves the canal, the history and the snapshot", () -> {
             NoodleCanal c = new NoodleCanal();
             c.saveSnapshot();
@@ -203,10 +219,24 @@ final class TextTests {
             Kit.loadFails("cana l 3;barge 0 1 0 0;", 1, 0);
             Kit.loadFails("cana", 1, 0);
             Kit.loadFails("canal 3x;barge 0 1 0 0;", 1, 7);
+            Kit.loadFails("canalz 3;barge 0 1 0 0;", 1, 0);
+            Kit.loadFails("acanal 3;barge 0 1 0 0;", 1, 0);
             Kit.loadFails("canal 1 0;barge 0 1 0 0;", 2, 6);
             Kit.loadFails("canal 3 0;barge 0 1 0 0;", 1, 8);
             Kit.loadFails("canal 3;bargebarge 0 1 0 0;", 1, 8);
             Kit.loadFails("canal 3;barge 01000;", 2, 14);
+        });
+        Kit.test(4, "every letter of a word counts", () -> {
+            String text = "canal 3;lock 0 1;bridge 0 1;barge 0 1 0 0;order 0 1 1 1;";
+            Kit.same(Kit.load(new NoodleCanal(), text), 1);
+            for (int at = 0; at < text.length(); at++) {
+                if (text.charAt(at) < 'a') continue;
+                int first = at;
+                while (first > 0 && text.charAt(first - 1) >= 'a') first--;
+                Kit.loadFails(text.substring(0, at) + "x" + text.substring(at + 1), 1, first);
+                Kit.loadFails(text.substring(0, at) + "z" + text.substring(at), 1, first);
+                Kit.loadFails(text.substring(0, at) + "C" + text.substring(at + 1), 1, at == first ? at : first);
+            }
         });
         Kit.test(4, "parentheses have no place in a canal", () -> {
             Kit.loadFails("(canal 3;barge 0 1 0 0;", 1, 0);
