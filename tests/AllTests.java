@@ -1,6 +1,7 @@
 /** Runs every test of the project and ends with the line "N passed, N failed". */
 public final class AllTests {
     public static void main(String[] arguments) {
+        FaceTests.run();
         CanalTests.run();
         TextTests.run();
         BargeTests.run();

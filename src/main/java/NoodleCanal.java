@@ -67,7 +67,7 @@ public final class NoodleCanal {
         return input.filled;
     }
 
-    public int loadCanal(int length) {
+    public int loadCanal(int length) throws IllegalArgumentException {
         requireText(length);
         input.begin(length);
         CanalParser.parse(input, draft);
@@ -99,29 +99,29 @@ public final class NoodleCanal {
         return canal.placeCount;
     }
 
-    public int lockWait(int section) {
+    public int lockWait(int section) throws IndexOutOfBoundsException {
         return sectionAt(section).waitingTime;
     }
 
-    public int clearance(int section) {
+    public int clearance(int section) throws IndexOutOfBoundsException {
         return sectionAt(section).clearance;
     }
 
-    public int bargeInLock(int section) {
+    public int bargeInLock(int section) throws IndexOutOfBoundsException {
         return sectionAt(section).bargeInside;
     }
 
-    public int usedPairs(int place) {
+    public int usedPairs(int place) throws IndexOutOfBoundsException {
         requirePlace(place);
         return canal.used[place];
     }
 
-    public int bargesAt(int place) {
+    public int bargesAt(int place) throws IndexOutOfBoundsException {
         requirePlace(place);
         return canal.countBargesAt(place);
     }
 
-    public int ordersAt(int place) {
+    public int ordersAt(int place) throws IndexOutOfBoundsException {
         requirePlace(place);
         return canal.countOrdersAt(place);
     }
@@ -130,48 +130,48 @@ public final class NoodleCanal {
         return canal.bargeCount;
     }
 
-    public int placeOf(int barge) {
+    public int placeOf(int barge) throws IndexOutOfBoundsException {
         return bargeAt(barge).place;
     }
 
-    public int targetOf(int barge) {
+    public int targetOf(int barge) throws IndexOutOfBoundsException {
         return bargeAt(barge).target;
     }
 
-    public int heightOf(int barge) {
+    public int heightOf(int barge) throws IndexOutOfBoundsException {
         return bargeAt(barge).height;
     }
 
-    public int timeInLock(int barge) {
+    public int timeInLock(int barge) throws IndexOutOfBoundsException {
         return bargeAt(barge).timeLeft;
     }
 
-    public int flour(int barge) {
+    public int flour(int barge) throws IndexOutOfBoundsException {
         return bargeAt(barge).flour;
     }
 
-    public int cleanPairs(int barge) {
+    public int cleanPairs(int barge) throws IndexOutOfBoundsException {
         return bargeAt(barge).clean;
     }
 
-    public int dirtyPairs(int barge) {
+    public int dirtyPairs(int barge) throws IndexOutOfBoundsException {
         return bargeAt(barge).dirty;
     }
 
-    public int queueLength(int barge) {
+    public int queueLength(int barge) throws IndexOutOfBoundsException {
         return bargeAt(barge).queued;
     }
 
-    public int queuedOrder(int barge, int index) {
+    public int queuedOrder(int barge, int index) throws IndexOutOfBoundsException {
         return bargeAt(barge).queuedAt(index);
     }
 
-    public int readyCount(int barge) {
+    public int readyCount(int barge) throws IndexOutOfBoundsException {
         requireBarge(barge);
         return canal.countHeldBy(barge) - bargeAt(barge).queued;
     }
 
-    public int flourNeeded(int barge) {
+    public int flourNeeded(int barge) throws IndexOutOfBoundsException {
         return canal.bowlsNotBegun(bargeAt(barge));
     }
 
@@ -179,39 +179,39 @@ public final class NoodleCanal {
         return canal.orderCount;
     }
 
-    public int orderPlace(int order) {
+    public int orderPlace(int order) throws IndexOutOfBoundsException {
         return orderAt(order).place;
     }
 
-    public int bowls(int order) {
+    public int bowls(int order) throws IndexOutOfBoundsException {
         return orderAt(order).bowls;
     }
 
-    public int pullsLeft(int order) {
+    public int pullsLeft(int order) throws IndexOutOfBoundsException {
         return orderAt(order).pullsLeft;
     }
 
-    public int deadline(int order) {
+    public int deadline(int order) throws IndexOutOfBoundsException {
         return orderAt(order).deadline;
     }
 
-    public int price(int order) {
+    public int price(int order) throws IndexOutOfBoundsException {
         return orderAt(order).worth();
     }
 
-    public int bargeOf(int order) {
+    public int bargeOf(int order) throws IndexOutOfBoundsException {
         return orderAt(order).barge;
     }
 
-    public boolean isOpen(int order) {
+    public boolean isOpen(int order) throws IndexOutOfBoundsException {
         return orderAt(order).state == OrderState.OPEN;
     }
 
-    public boolean isReady(int order) {
+    public boolean isReady(int order) throws IndexOutOfBoundsException {
         return orderAt(order).state == OrderState.READY;
     }
 
-    public boolean isEaten(int order) {
+    public boolean isEaten(int order) throws IndexOutOfBoundsException {
         return orderAt(order).state == OrderState.EATEN;
     }
 
@@ -250,19 +250,19 @@ public final class NoodleCanal {
         return canal.pairsGap() + canal.bowlsGap();
     }
 
-    public int sailObstacle(int barge, int place) {
+    public int sailObstacle(int barge, int place) throws IndexOutOfBoundsException {
         requireBarge(barge);
         requirePlace(place);
         return canal.obstacleFor(barge, place);
     }
 
-    public int journeyTime(int from, int to) {
+    public int journeyTime(int from, int to) throws IndexOutOfBoundsException {
         requirePlace(from);
         requirePlace(to);
         return canal.timeBetween(from, to);
     }
 
-    public int minutesToTarget(int barge) {
+    public int minutesToTarget(int barge) throws IndexOutOfBoundsException {
         requireBarge(barge);
         draft.copyFrom(canal);
         for (int passed = 0; passed <= MOST_FORECAST_MINUTES; passed++) {
@@ -274,25 +274,25 @@ public final class NoodleCanal {
         return -1;
     }
 
-    public boolean willBeEaten(int order) {
+    public boolean willBeEaten(int order) throws IndexOutOfBoundsException {
         requireOrder(order);
         draft.copyFrom(canal);
         draft.passAtMost(MOST_FORECAST_MINUTES);
         return draft.wasEaten(order);
     }
 
-    public int coinsAfter(int minutes) {
+    public int coinsAfter(int minutes) throws IllegalArgumentException {
         requireRange(minutes, 0, MOST_FORECAST_MINUTES);
         draft.copyFrom(canal);
         draft.passAtMost(minutes);
         return draft.coins;
     }
 
-    public int nearestBarge(int order) {
+    public int nearestBarge(int order) throws IndexOutOfBoundsException {
         return canal.bargeNearestTo(orderAt(order).place);
     }
 
-    public int sail(int barge, int place) {
+    public int sail(int barge, int place) throws IndexOutOfBoundsException, IllegalStateException {
         requireBarge(barge);
         requirePlace(place);
         requireState(canal.canSail(barge, place));
@@ -301,7 +301,8 @@ public final class NoodleCanal {
         return canal.timeBetween(bargeAt(barge).place, place);
     }
 
-    public int makeOrder(int place, int bowls, int pulls, int minutes) {
+    public int makeOrder(int place, int bowls, int pulls, int minutes)
+            throws IndexOutOfBoundsException, IllegalArgumentException, IllegalStateException {
         requirePlace(place);
         requireRange(bowls, 1, MOST_BOWLS);
         requireRange(pulls, 1, MOST_PULLS);
@@ -312,7 +313,7 @@ public final class NoodleCanal {
         return canal.orderCount - 1;
     }
 
-    public int take(int barge, int order) {
+    public int take(int barge, int order) throws IndexOutOfBoundsException, IllegalStateException {
         requireBarge(barge);
         requireOrder(order);
         requireState(canal.canGive(barge, order));
@@ -321,7 +322,7 @@ public final class NoodleCanal {
         return bargeAt(barge).queued;
     }
 
-    public int drop(int order) {
+    public int drop(int order) throws IndexOutOfBoundsException, IllegalStateException {
         requireOrder(order);
         requireState(canal.canReopen(order));
         history.remember(canal);
@@ -330,7 +331,8 @@ public final class NoodleCanal {
         return holder;
     }
 
-    public int buyFlour(int barge, int units) {
+    public int buyFlour(int barge, int units)
+            throws IndexOutOfBoundsException, IllegalArgumentException, IllegalStateException {
         requireBarge(barge);
         requireRange(units, 1, MOST_FLOUR);
         requireState(canal.canLoadFlour(barge, units));
@@ -339,7 +341,7 @@ public final class NoodleCanal {
         return bargeAt(barge).flour;
     }
 
-    public int collect(int barge) {
+    public int collect(int barge) throws IndexOutOfBoundsException, IllegalStateException {
         requireBarge(barge);
         requireState(canal.canGather(barge));
         history.remember(canal);
@@ -348,7 +350,7 @@ public final class NoodleCanal {
         return bargeAt(barge).dirty - dirtyBefore;
     }
 
-    public int wash(int barge) {
+    public int wash(int barge) throws IndexOutOfBoundsException, IllegalStateException {
         requireBarge(barge);
         requireState(canal.isInHarbor(barge));
         history.remember(canal);
@@ -356,7 +358,7 @@ public final class NoodleCanal {
         return bargeAt(barge).clean;
     }
 
-    public int passMinutes(int minutes) {
+    public int passMinutes(int minutes) throws IllegalArgumentException, IllegalStateException {
         requireRange(minutes, 1, MOST_MINUTES_AT_ONCE);
         requireState(canal.canPass(minutes));
         history.remember(canal);
@@ -365,7 +367,7 @@ public final class NoodleCanal {
         return canal.eaten - eatenBefore;
     }
 
-    public int runScript(int length) {
+    public int runScript(int length) throws IllegalArgumentException {
         requireText(length);
         input.begin(length);
         script.parse(input);
@@ -388,7 +390,7 @@ public final class NoodleCanal {
         return outputLength;
     }
 
-    public int outputByte(int index) {
+    public int outputByte(int index) throws IndexOutOfBoundsException {
         if (index < 0 || index >= outputLength) {
             throw new IndexOutOfBoundsException("no such byte");
         }
@@ -399,7 +401,7 @@ public final class NoodleCanal {
         return history.count;
     }
 
-    public int undo() {
+    public int undo() throws IllegalStateException {
         requireState(history.count > 0);
         history.takeBack(canal);
         return history.count;
@@ -410,7 +412,7 @@ public final class NoodleCanal {
         hasSnapshot = true;
     }
 
-    public int restoreSnapshot() {
+    public int restoreSnapshot() throws IllegalStateException {
         requireState(hasSnapshot);
         canal.copyFrom(snapshot);
         history.clear();
