@@ -12,6 +12,17 @@ public final class AllTests {
         MinuteTests.run();
         ScriptTests.run();
         HistoryTests.run();
+        CanalEdgeTests.run();
+        BargeEdgeTests.run();
+        OrderEdgeTests.run();
+        MinuteEdgeTests.run();
+        TextEdgeTests.run();
+        ScriptEdgeTests.run();
+        ChangeEdgeTests.run();
+        AccountEdgeTests.run();
+        ForecastEdgeTests.run();
+        HistoryEdgeTests.run();
+        Document.run();
         Kit.test(0, "every promise has a test", () -> {
             for (int promise = 1; promise <= 63; promise++) Kit.same("a test of promise " + promise, Kit.PROMISES.contains(promise), true);
         });

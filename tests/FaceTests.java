@@ -1,11 +1,7 @@
-import java.io.IOException;
-import java.io.UncheckedIOException;
 import java.lang.reflect.Constructor;
 import java.lang.reflect.Executable;
 import java.lang.reflect.Method;
 import java.lang.reflect.Modifier;
-import java.nio.file.Files;
-import java.nio.file.Path;
 import java.util.ArrayList;
 import java.util.Arrays;
 import java.util.List;
@@ -16,8 +12,6 @@ import java.util.stream.Collectors;
 
 /** Rule 1 of LANGUAGE.md: the class's members are those that "The public face" prints, throws clauses too. */
 final class FaceTests {
-    // The tests are run from the project's root, as .ci/run does.
-    private static final Path DOCUMENT = Path.of("../shared/DOC.md");
     private static final Pattern FACE = Pattern.compile("## The public face\\s+```java\\n(.*?)```", Pattern.DOTALL);
     private static final Pattern PARTS = Pattern.compile("(public [^(]*)\\(([^)]*)\\)(?: throws (.*))?");
 
@@ -50,8 +44,8 @@ final class FaceTests {
 
     /** The members as the document prints them, without the parameters' names. */
     private static List<String> printedMembers() {
-        Matcher face = FACE.matcher(document());
-        if (!face.find()) throw new AssertionError("no public face in " + DOCUMENT);
+        Matcher face = FACE.matcher(Document.text());
+        if (!face.find()) throw new AssertionError("no public face in " + Document.FILE);
         List<String> members = new ArrayList<>();
         for (String line : face.group(1).split("\n")) {
             if (line.endsWith(";")) members.add(withoutParameterNames(line.strip().substring(0, line.strip().length() - 1)));
@@ -64,14 +58,6 @@ final class FaceTests {
         if (!parts.matches()) throw new AssertionError("neither a constructor nor a method: " + member);
         String types = parts.group(2).replaceAll(" \\w+(?=,|$)", "");
         return parts.group(1) + "(" + types + ")" + (parts.group(3) == null ? "" : " throws " + parts.group(3));
-    }
-
-    private static String document() {
-        try {
-            return Files.readString(DOCUMENT);
-        } catch (IOException e) {
-            throw new UncheckedIOException(e);
-        }
     }
 
     private static TreeSet<String> visibleMembers() {

@@ -64,11 +64,81 @@ final class Kit {
         }
     }
 
-    /** A call that must throw E (its simple name) and leave all that can be seen as it was. */
+    /** A call that must throw E (its simple name) and leave what look shows as it was. */
     static void refused(NoodleCanal c, String exception, Body call) {
         String before = look(c);
         same("the call", thrown(call), exception);
         same("the canal after a refused call", look(c), before);
+    }
+
+    /** Makes an object that stands where a call is to be refused; each time alike. */
+    interface Made {
+        NoodleCanal get();
+    }
+
+    interface Call {
+        void on(NoodleCanal c);
+    }
+
+    static void indexRefused(Made made, Call... calls) {
+        for (Call call : calls) refused(made, "IndexOutOfBoundsException", call);
+    }
+
+    static void argumentRefused(Made made, Call... calls) {
+        for (Call call : calls) refused(made, "IllegalArgumentException", call);
+    }
+
+    static void stateRefused(Made made, Call... calls) {
+        for (Call call : calls) refused(made, "IllegalStateException", call);
+    }
+
+    /** A call that must throw E (its simple name), behind which all goes on as if it had not been made. */
+    private static void refused(Made made, String exception, Call call) {
+        NoodleCanal c = made.get();
+        same("the call", thrown(() -> call.on(c)), exception);
+        same("what comes behind a refused call", story(c), story(made.get()));
+    }
+
+    /** Calls that answer, but behind which all goes on as if they had not been made. */
+    static void changesNothing(Made made, Call... calls) {
+        for (Call call : calls) {
+            NoodleCanal c = made.get();
+            call.on(c);
+            same("what comes behind the call", story(c), story(made.get()));
+        }
+    }
+
+    /** Gives an object all that a refused call could spoil: a parse error, a snapshot, an output, a change and a text. */
+    static NoodleCanal busy(NoodleCanal c) {
+        same(script(c, "repeat 9"), -1);
+        c.saveSnapshot();
+        c.writeCanal();
+        c.collect(0);
+        append(c, "wait 2;order 0 1 1 9;");
+        return c;
+    }
+
+    /** What an object answers from here on: its canal, output, input, history and snapshot. */
+    private static String story(NoodleCanal c) {
+        StringBuilder s = new StringBuilder(look(c)).append("\noutput ").append(lastOutput(c));
+        int filled = c.appendText(0x20202020, 0x20202020, 0x20202020, 0x20202020, 0x20202020);
+        s.append("\nfilled ").append(filled).append(" script ").append(filled < 0 ? 0 : c.runScript(filled));
+        s.append(" error ").append(c.errorCode()).append('@').append(c.errorOffset());
+        s.append(" minute ").append(c.minute()).append(" orders ").append(c.orderCount()).append("\nundone ");
+        while (c.undoableCount() > 0) s.append(c.undo()).append(" at ").append(c.minute()).append(", coins ").append(c.coins()).append(", ");
+        s.append(lookAtCanal(c));
+        s.append("\nrestored ").append(thrown(c::restoreSnapshot)).append(lookAtCanal(c));
+        return s.toString();
+    }
+
+    private static String lastOutput(NoodleCanal c) {
+        StringBuilder s = new StringBuilder();
+        for (int i = 0; i < 31; i++) {
+            int at = i;
+            if (!thrown(() -> c.outputByte(at)).equals("nothing thrown")) break;
+            s.append((char) c.outputByte(i));
+        }
+        return s.toString();
     }
 
     /** Appends a text, filled up with spaces to whole twenties, and answers the text's own length. */
@@ -111,6 +181,32 @@ final class Kit {
         same("errorCode of " + text, c.errorCode(), code);
         same("errorOffset of " + text, c.errorOffset(), offset);
         same("undoableCount after " + text, c.undoableCount(), 0);
+    }
+
+    /** A number of a canal at its place in a text: the ends of its range are read, the numbers beside them are not. */
+    static void canalRange(String before, String behind, int least, int most) {
+        for (int n : new int[] {least, most}) same(before + n + behind, load(new NoodleCanal(), before + n + behind), 1);
+        if (least > 0) loadFails(before + (least - 1) + behind, 2, before.length());
+        loadFails(before + (most + 1) + behind, 2, before.length());
+        loadFails(before + "4294967296" + behind, 2, before.length());
+        loadFails(before + "x" + behind, 1, before.length());
+        loadFails(before + "-1" + behind, 1, before.length());
+        loadFails(before, 1, before.length());
+    }
+
+    /** The same for a number of a script. */
+    static void scriptRange(String before, String behind, int least, int most) {
+        for (int n : new int[] {least, most}) {
+            NoodleCanal c = new NoodleCanal();
+            same(before + n + behind, script(c, before + n + behind) >= 0, true);
+            same(before + n + behind, c.errorCode(), 0);
+        }
+        if (least > 0) scriptFails(before + (least - 1) + behind, 2, before.length());
+        scriptFails(before + (most + 1) + behind, 2, before.length());
+        scriptFails(before + "4294967296" + behind, 2, before.length());
+        scriptFails(before + "x" + behind, 1, before.length());
+        scriptFails(before + "-1" + behind, 1, before.length());
+        scriptFails(before, 1, before.length());
     }
 
     /** Passes more minutes than one call allows. */

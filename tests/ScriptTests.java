@@ -173,37 +173,22 @@ final class ScriptTests {
 
     private static void ranges() {
         Kit.test(57, "ranges of the numbers of a script", () -> {
-            range("sail ", " 1;", 0, 4);
-            range("sail 0 ", ";", 0, 15);
-            range("order ", " 1 1 1;", 0, 15);
-            range("order 0 ", " 1 1;", 1, 4);
-            range("order 0 1 ", " 1;", 1, 6);
-            range("order 0 1 1 ", ";", 1, 500);
-            range("take ", " 1;", 0, 4);
-            range("take 0 ", ";", 0, 29);
-            range("drop ", ";", 0, 29);
-            range("flour ", " 1;", 0, 4);
-            range("flour 0 ", ";", 1, 99);
-            range("collect ", ";", 0, 4);
-            range("wash ", ";", 0, 4);
-            range("wait ", ";", 1, 60);
-            range("repeat ", "();", 2, 5);
+            Kit.scriptRange("sail ", " 1;", 0, 4);
+            Kit.scriptRange("sail 0 ", ";", 0, 15);
+            Kit.scriptRange("order ", " 1 1 1;", 0, 15);
+            Kit.scriptRange("order 0 ", " 1 1;", 1, 4);
+            Kit.scriptRange("order 0 1 ", " 1;", 1, 6);
+            Kit.scriptRange("order 0 1 1 ", ";", 1, 500);
+            Kit.scriptRange("take ", " 1;", 0, 4);
+            Kit.scriptRange("take 0 ", ";", 0, 29);
+            Kit.scriptRange("drop ", ";", 0, 29);
+            Kit.scriptRange("flour ", " 1;", 0, 4);
+            Kit.scriptRange("flour 0 ", ";", 1, 99);
+            Kit.scriptRange("collect ", ";", 0, 4);
+            Kit.scriptRange("wash ", ";", 0, 4);
+            Kit.scriptRange("wait ", ";", 1, 60);
+            Kit.scriptRange("repeat ", "();", 2, 5);
         });
-    }
-
-    private static void range(String before, String behind, int least, int most) {
-        for (int n : new int[] {least, most}) {
-            NoodleCanal c = new NoodleCanal();
-            Kit.same(before + n + behind, Kit.script(c, before + n + behind) >= 0, true);
-            Kit.same(before + n + behind, c.errorCode(), 0);
-        }
-        if (least > 0) Kit.scriptFails(before + (least - 1) + behind, 2, before.length());
-        Kit.scriptFails(before + (most + 1) + behind, 2, before.length());
-        Kit.scriptFails(before + "9999999999" + behind, 2, before.length());
-        Kit.scriptFails(before + "x" + behind, 1, before.length());
-        // Without this number, the next ones stand for it, and the first token that is none is wrong.
-        Kit.scriptFails(before + behind, 1, before.length() + behind.replaceAll("[ 1]*([^ 1].*)?$", "").length() + behind.indexOf(behind.replaceAll("[ 1]", "").charAt(0)));
-        Kit.scriptFails(before, 1, before.length());
     }
 
     private static void grammar() {
@@ -228,6 +213,17 @@ final class ScriptTests {
             Kit.scriptFails("order 0 1 1;", 1, 11);
             Kit.scriptFails("flour 0 1 2;", 1, 10);
             Kit.scriptFails("wait 1,", 1, 6);
+        });
+        Kit.test(4, "a number that is wanting", () -> {
+            Kit.scriptFails("sail 1;", 1, 6);
+            Kit.scriptFails("order 1 1 1;", 1, 11);
+            Kit.scriptFails("take 1;", 1, 6);
+            Kit.scriptFails("drop;", 1, 4);
+            Kit.scriptFails("flour 1;", 1, 7);
+            Kit.scriptFails("collect;", 1, 7);
+            Kit.scriptFails("wash;", 1, 4);
+            Kit.scriptFails("wait;", 1, 4);
+            Kit.scriptFails("repeat ();", 1, 7);
         });
         Kit.test(4, "every letter of a word counts", () -> {
             for (String word : new String[] {"sail", "order", "take", "drop", "flour", "collect", "wash", "wait", "repeat"}) {

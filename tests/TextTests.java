@@ -167,19 +167,19 @@ final class TextTests {
 
     private static void numbers() {
         Kit.test(3, "ranges of the numbers of a canal", () -> {
-            range("canal ", ";barge 0 1 0 0;", 3, 16);
-            range("canal 7;lock ", " 4;barge 0 1 0 0;", 0, 5);
-            range("canal 7;lock 0 ", ";barge 0 1 0 0;", 1, 9);
-            range("canal 7;bridge ", " 4;barge 0 1 0 0;", 0, 5);
-            range("canal 7;bridge 0 ", ";barge 0 1 0 0;", 1, 9);
-            range("canal 7;barge ", " 1 0 0;", 0, 6);
-            range("canal 7;barge 0 ", " 0 0;", 1, 9);
-            range("canal 7;barge 0 1 ", " 0;", 0, 99);
-            range("canal 7;barge 0 1 0 ", ";", 0, 99);
-            range("canal 7;barge 0 1 0 0;order ", " 1 1 1;", 0, 6);
-            range("canal 7;barge 0 1 0 0;order 0 ", " 1 1;", 1, 4);
-            range("canal 7;barge 0 1 0 0;order 0 1 ", " 1;", 1, 6);
-            range("canal 7;barge 0 1 0 0;order 0 1 1 ", ";", 1, 500);
+            Kit.canalRange("canal ", ";barge 0 1 0 0;", 3, 16);
+            Kit.canalRange("canal 7;lock ", " 4;barge 0 1 0 0;", 0, 5);
+            Kit.canalRange("canal 7;lock 0 ", ";barge 0 1 0 0;", 1, 9);
+            Kit.canalRange("canal 7;bridge ", " 4;barge 0 1 0 0;", 0, 5);
+            Kit.canalRange("canal 7;bridge 0 ", ";barge 0 1 0 0;", 1, 9);
+            Kit.canalRange("canal 7;barge ", " 1 0 0;", 0, 6);
+            Kit.canalRange("canal 7;barge 0 ", " 0 0;", 1, 9);
+            Kit.canalRange("canal 7;barge 0 1 ", " 0;", 0, 99);
+            Kit.canalRange("canal 7;barge 0 1 0 ", ";", 0, 99);
+            Kit.canalRange("canal 7;barge 0 1 0 0;order ", " 1 1 1;", 0, 6);
+            Kit.canalRange("canal 7;barge 0 1 0 0;order 0 ", " 1 1;", 1, 4);
+            Kit.canalRange("canal 7;barge 0 1 0 0;order 0 1 ", " 1;", 1, 6);
+            Kit.canalRange("canal 7;barge 0 1 0 0;order 0 1 1 ", ";", 1, 500);
         });
         Kit.test(3, "numbers of any length", () -> {
             NoodleCanal c = new NoodleCanal();
@@ -189,15 +189,6 @@ final class TextTests {
                 Kit.loadFails("canal " + n + ";barge 0 1 0 0;", 2, 6);
             }
         });
-    }
-
-    private static void range(String before, String behind, int least, int most) {
-        for (int n : new int[] {least, most}) Kit.same(before + n + behind, Kit.load(new NoodleCanal(), before + n + behind), 1);
-        if (least > 0) Kit.loadFails(before + (least - 1) + behind, 2, before.length());
-        Kit.loadFails(before + (most + 1) + behind, 2, before.length());
-        Kit.loadFails(before + "x" + behind, 1, before.length());
-        Kit.loadFails(before + "-1" + behind, 1, before.length());
-        Kit.loadFails(before, 1, before.length());
     }
 
     private static void tokens() {
