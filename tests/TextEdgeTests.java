@@ -42,6 +42,8 @@ final class TextEdgeTests {
             Kit.loadFails("canalz 3;barge 0 1 0 0;", 1, 0);
             Kit.loadFails("acanal 3;barge 0 1 0 0;", 1, 0);
             Kit.loadFails("zcanal 3;barge 0 1 0 0;", 1, 0);
+            Kit.loadFails("danal 3;barge 0 1 0 0;", 1, 0);
+            Kit.loadFails("canak 3;barge 0 1 0 0;", 1, 0);
             Kit.loadFails("canal` 3;barge 0 1 0 0;", 1, 5);
             Kit.loadFails("canal{ 3;barge 0 1 0 0;", 1, 5);
             Kit.loadFails("Canal 3;barge 0 1 0 0;", 1, 0);
