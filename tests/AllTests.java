@@ -2,6 +2,7 @@
 public final class AllTests {
     public static void main(String[] arguments) {
         FaceTests.run();
+        ReadmeTests.run();
         CanalTests.run();
         TextTests.run();
         BargeTests.run();
